@@ -1,12 +1,17 @@
 import java.lang.reflect.Method;
+import java.util.HashMap;
+import java.util.Map;
 
 /** Makes a call that is written as text, such as "lemma 1 -2"; places left out at the end are 0. */
 final class Calls {
+  private static final Map<String, Method> found = new HashMap<>();
+
   private Calls() {}
 
   static int answer(Object object, String call) {
     String[] parts = call.split(" ");
-    Method method = methodNamed(object.getClass(), parts[0]);
+    Class<?> type = object.getClass();
+    Method method = found.computeIfAbsent(type.getName() + " " + parts[0], key -> methodNamed(type, parts[0]));
     Object[] arguments = new Object[method.getParameterCount()];
     if (parts.length - 1 > arguments.length) {
       throw new IllegalArgumentException("too many places: " + call);
