@@ -79,7 +79,7 @@ public final class TrimChecker {
     }
     int id = axiomCount;
     store(id, AXIOM, a, b, c, d);
-    literalSets[id] = literalSet(a, b, c, d);
+    literalSets[id] = setOfLiterals(a, b, c, d);
     axiomCount++;
     return id;
   }
@@ -96,7 +96,7 @@ public final class TrimChecker {
     }
     int id = axiomCount + lineCount;
     store(id, LEMMA, a, b, c, d);
-    literalSets[id] = literalSet(a, b, c, d);
+    literalSets[id] = setOfLiterals(a, b, c, d);
     countNewLine();
     return id;
   }
@@ -140,12 +140,18 @@ public final class TrimChecker {
       return WRONG_PHASE;
     }
     int line = cursorLine - 1;
-    int answer = checkLine(line);
-    if (answer == NOT_PASSED) {
-      currentPhase = REJECTED;
-    } else {
-      moveCursorBackTo(line);
+    int id = axiomCount + line;
+    int answer = kinds[id] == DELETION ? REVIVED : SKIPPED;
+    if (hasMember(markedSet, id)) {
+      int aliveSet = aliveAfter(line);
+      answer = wayOfPassing(id, aliveSet);
+      if (answer == NOT_PASSED) {
+        currentPhase = REJECTED;
+        return NOT_PASSED;
+      }
+      keep(aliveSet);
     }
+    moveCursorBackTo(line);
     return answer;
   }
 
@@ -275,7 +281,7 @@ public final class TrimChecker {
     return literal > 0 ? 1 << (literal - 1) : 1 << (MOST_VARIABLES - literal - 1);
   }
 
-  private static int literalSet(int a, int b, int c, int d) {
+  private static int setOfLiterals(int a, int b, int c, int d) {
     return literalBit(a) | literalBit(b) | literalBit(c) | literalBit(d);
   }
 
@@ -378,22 +384,6 @@ public final class TrimChecker {
     if (line == 0) {
       currentPhase = ACCEPTED;
     }
-  }
-
-  private int checkLine(int line) {
-    int id = axiomCount + line;
-    if (kinds[id] == DELETION) {
-      return REVIVED;
-    }
-    if (!hasMember(markedSet, id)) {
-      return SKIPPED;
-    }
-    int aliveSet = aliveAfter(line);
-    int way = wayOfPassing(id, aliveSet);
-    if (way != NOT_PASSED) {
-      keep(aliveSet);
-    }
-    return way;
   }
 
   // Leaves the lemma's obligations behind, because keeping needs the same ones.

@@ -65,9 +65,9 @@ public final class SealTest {
   }
 
   private static void followsLongChains() {
-    // Each unit stands before the clause that makes it, so every pass over the clauses finds one only.
+    // Each clause stands before the one that makes it a unit, so a pass from the least id up finds one unit only.
     new Run("chain", 8, 12, 1)
-        .add(0, "axiom -8", "axiom -7 8", "axiom -6 7", "axiom -5 6", "axiom -4 5", "axiom -3 4",
+        .add(0, "axiom -7 -8", "axiom -7 8", "axiom -6 7", "axiom -5 6", "axiom -4 5", "axiom -3 4",
             "axiom -2 3", "axiom -1 2", "axiom 1")
         .due("seal", 0).marks(0, 1, 2, 3, 4, 5, 6, 7, 8);
     new Run("chain in order", 8, 12, 1)
