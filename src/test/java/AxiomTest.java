@@ -1,8 +1,5 @@
 /** Promise 2. */
 public final class AxiomTest {
-  private static final int MIN = Integer.MIN_VALUE;
-  private static final int MAX = Integer.MAX_VALUE;
-
   public static void main(String[] args) {
     storesAsGiven();
     refusesLiterals();
@@ -23,12 +20,7 @@ public final class AxiomTest {
 
   private static void refusesLiterals() {
     Run run = new Run("literals", 3, 4, 2).due("axiom 3 -3 3 -3", 0);
-    for (int literal : new int[] {4, -4, 8, -8, 9, -9, 256, MIN, MIN + 1, MAX}) {
-      run.same("axiom " + literal, TrimChecker.BAD);
-      run.same("axiom 1 " + literal, TrimChecker.BAD);
-      run.same("axiom 1 2 " + literal, TrimChecker.BAD);
-      run.same("axiom 0 0 0 " + literal, TrimChecker.BAD);
-    }
+    run.refusesLiteralsAbove(3, "axiom");
     run.due("axiom 0 0 0 -3", 1);
   }
 

@@ -1,8 +1,5 @@
 /** Promise 3. */
 public final class LemmaTest {
-  private static final int MIN = Integer.MIN_VALUE;
-  private static final int MAX = Integer.MAX_VALUE;
-
   public static void main(String[] args) {
     storesAsGiven();
     refusesLiterals();
@@ -25,12 +22,7 @@ public final class LemmaTest {
 
   private static void refusesLiterals() {
     Run run = new Run("literals", 2, 2, 3).due("axiom 1", 0).due("lemma -2 2 -2 2", 1);
-    for (int literal : new int[] {3, -3, 8, -8, 9, -9, 65536, MIN, MIN + 1, MAX}) {
-      run.same("lemma " + literal, TrimChecker.BAD);
-      run.same("lemma 1 " + literal, TrimChecker.BAD);
-      run.same("lemma 1 2 " + literal, TrimChecker.BAD);
-      run.same("lemma 0 0 0 " + literal, TrimChecker.BAD);
-    }
+    run.refusesLiteralsAbove(2, "lemma");
     run.due("lemma 0 0 0 2", 2);
   }
 

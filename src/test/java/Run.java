@@ -37,6 +37,19 @@ final class Run {
     return this;
   }
 
+  /** The method takes a clause, and answers BAD to a strange literal in any place. */
+  void refusesLiteralsAbove(int variables, String method) {
+    int[] strange = {
+      variables + 1, -variables - 1, 8, -8, 9, -9, 256, 65536, Integer.MIN_VALUE, Integer.MIN_VALUE + 1, Integer.MAX_VALUE
+    };
+    for (int literal : strange) {
+      same(method + " " + literal, TrimChecker.BAD);
+      same(method + " 1 " + literal, TrimChecker.BAD);
+      same(method + " 1 2 " + literal, TrimChecker.BAD);
+      same(method + " 0 0 0 " + literal, TrimChecker.BAD);
+    }
+  }
+
   /** Exactly these of the ids 0..23 are marked. */
   Run marks(Integer... ids) {
     return exactly("marked", ids);
