@@ -66,15 +66,24 @@ final class Calls {
     told.append(call).append(" = ").append(answer(object, call)).append('\n');
   }
 
-  /** The first line in which two snapshots differ. */
-  static String difference(String one, String other) {
+  /** The first line in which two snapshots differ, but for lines that begin with one of the words given. */
+  static String difference(String one, String other, String... exceptions) {
     String[] a = one.split("\n");
     String[] b = other.split("\n");
     for (int i = 0; i < a.length; i++) {
-      if (!a[i].equals(b[i])) {
+      if (!a[i].equals(b[i]) && !beginsWithOne(a[i], exceptions)) {
         return a[i] + " against " + b[i];
       }
     }
     return "";
+  }
+
+  private static boolean beginsWithOne(String line, String[] words) {
+    for (String word : words) {
+      if (line.startsWith(word + " ")) {
+        return true;
+      }
+    }
+    return false;
   }
 }

@@ -71,7 +71,8 @@ public final class FaceTest {
       expect(method.getParameterCount() <= 7, "at most seven parameters: " + told);
       expect(names.add(method.getName()), "one method of a name: " + told);
       if (!Modifier.isPrivate(method.getModifiers())) {
-        expect(Modifier.isPublic(method.getModifiers()) && !Modifier.isStatic(method.getModifiers()), "public: " + told);
+        expect(Modifier.isPublic(method.getModifiers()) && !Modifier.isStatic(method.getModifiers()),
+            "public: " + told);
         expect(wanted.remove(told) && allInts(method.getParameterTypes()), "as in the document: " + told);
       }
     }

@@ -20,16 +20,21 @@ final class Run {
 
   /** The same as due, and the call must leave everything as it was. */
   Run same(String call, int want) {
+    return changesOnly(call, want);
+  }
+
+  /** The same as due; of all that can be asked, only the answers to calls that begin so may change. */
+  Run changesOnly(String call, int want, String... what) {
     String before = Calls.snapshot(checker);
     due(call, want);
-    String difference = Calls.difference(before, Calls.snapshot(checker));
+    String difference = Calls.difference(before, Calls.snapshot(checker), what);
     if (!difference.isEmpty()) {
-      tellWrong(name + ": " + call + " changed something: " + difference);
+      tellWrong(name + ": " + call + " changed too much: " + difference);
     }
     return this;
   }
 
-  /** Adds clauses one after another, the first with the id given. */
+  /** Adds clauses and deletions one after another, the first with the id given. */
   Run add(int firstId, String... calls) {
     for (int i = 0; i < calls.length; i++) {
       due(calls[i], firstId + i);
@@ -37,17 +42,10 @@ final class Run {
     return this;
   }
 
-  /** The method takes a clause, and answers BAD to a strange literal in any place. */
-  void refusesLiteralsAbove(int variables, String method) {
-    int[] strange = {
-      variables + 1, -variables - 1, 8, -8, 9, -9, 256, 65536, Integer.MIN_VALUE, Integer.MIN_VALUE + 1, Integer.MAX_VALUE
-    };
-    for (int literal : strange) {
-      same(method + " " + literal, TrimChecker.BAD);
-      same(method + " 1 " + literal, TrimChecker.BAD);
-      same(method + " 1 2 " + literal, TrimChecker.BAD);
-      same(method + " 0 0 0 " + literal, TrimChecker.BAD);
-    }
+  /** The four words of an id. */
+  Run words(int id, int a, int b, int c, int d) {
+    return due("word " + id + " 0", a).due("word " + id + " 1", b).due("word " + id + " 2", c)
+        .due("word " + id + " 3", d);
   }
 
   /** Exactly these of the ids 0..23 are marked. */

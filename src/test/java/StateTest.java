@@ -1,13 +1,57 @@
-/** Promises 10, 11 and 12: the phase, the cursor and the conflict point through a whole life. */
+/** Promises 10, 11 and 12, and the term "state". Above each test stands the sentence that it tests. */
 public final class StateTest {
   public static void main(String[] args) {
-    followsAnAcceptedText();
-    followsARejectedText();
-    asksWithoutChanging();
+    tellsEachPhase();
+    tellsTheCursorInEachPhase();
+    tellsTheConflictPointInEachPhase();
+    keepsTheConflictPoint();
+    buildsWithoutMarks();
     Run.end();
   }
 
-  private static void followsAnAcceptedText() {
+  /** "phase() answers the phase: BUILDING, CHECKING, ACCEPTED or REJECTED. Nothing changes." */
+  private static void tellsEachPhase() {
+    int[] wanted = {TrimChecker.BUILDING, TrimChecker.CHECKING, TrimChecker.ACCEPTED, TrimChecker.REJECTED};
+    Run[] runs = Texts.inEveryPhase();
+    for (int i = 0; i < runs.length; i++) {
+      runs[i].same("phase", wanted[i]).same("phase", wanted[i]);
+      runs[i].due("rewind 99", i == 3 ? 3 : 6).same("phase", TrimChecker.BUILDING);
+    }
+    new Run("new", 1, 1, 1).same("phase", TrimChecker.BUILDING);
+    Texts.square("after NO_CONFLICT").due("seal", TrimChecker.NO_CONFLICT).same("phase", TrimChecker.BUILDING);
+    new Run("accepted at once", 1, 1, 1).due("axiom 0", 0).due("seal", 0).same("phase", TrimChecker.ACCEPTED);
+  }
+
+  /** "cursor() answers the cursor, in any phase. In BUILDING this is the number of lines. Nothing changes." */
+  private static void tellsTheCursorInEachPhase() {
+    int[] wanted = {6, 5, 0, 2};
+    Run[] runs = Texts.inEveryPhase();
+    for (int i = 0; i < runs.length; i++) {
+      runs[i].same("cursor", wanted[i]).same("cursor", wanted[i]);
+      runs[i].due("rewind 99", i == 3 ? 3 : 6).same("cursor", i == 3 ? 3 : 6);
+    }
+    new Run("no line", 1, 1, 1).same("cursor", 0).due("axiom 1", 0).same("cursor", 0);
+    Texts.greatest("twelve lines").same("cursor", 12).due("seal", 12).same("cursor", 12);
+    new Run("accepted at once, a line behind", 1, 1, 1).add(0, "axiom 0", "lemma 1").same("cursor", 1)
+        .due("seal", 0).same("cursor", 0);
+  }
+
+  /** "conflict() answers the conflict point found by seal(), or NONE in BUILDING. ... Nothing changes." */
+  private static void tellsTheConflictPointInEachPhase() {
+    int[] wanted = {TrimChecker.NONE, 5, 5, 2};
+    Run[] runs = Texts.inEveryPhase();
+    for (int i = 0; i < runs.length; i++) {
+      runs[i].same("conflict", wanted[i]).same("conflict", wanted[i]);
+      runs[i].due("rewind 99", i == 3 ? 3 : 6).same("conflict", TrimChecker.NONE);
+    }
+    new Run("new", 1, 1, 1).same("conflict", TrimChecker.NONE);
+    Texts.square("after NO_CONFLICT").due("seal", TrimChecker.NO_CONFLICT).same("conflict", TrimChecker.NONE);
+    new Run("point 0", 1, 1, 1).due("axiom 0", 0).due("seal", 0).same("conflict", 0);
+    Texts.greatest("point 12").due("seal", 12).same("conflict", 12);
+  }
+
+  /** "It keeps its value through CHECKING, ACCEPTED and REJECTED." */
+  private static void keepsTheConflictPoint() {
     Texts.withWaste("accepted").state(TrimChecker.BUILDING, 6, TrimChecker.NONE)
         .due("seal", 5).state(TrimChecker.CHECKING, 5, 5)
         .due("back", TrimChecker.BY_RUP).state(TrimChecker.CHECKING, 4, 5)
@@ -16,27 +60,21 @@ public final class StateTest {
         .due("back", TrimChecker.SKIPPED).state(TrimChecker.CHECKING, 1, 5)
         .due("back", TrimChecker.BY_RUP).state(TrimChecker.ACCEPTED, 0, 5)
         .due("back", TrimChecker.WRONG_PHASE).state(TrimChecker.ACCEPTED, 0, 5)
+        .due("seal", TrimChecker.WRONG_PHASE).state(TrimChecker.ACCEPTED, 0, 5)
         .due("rewind 2", 2).state(TrimChecker.BUILDING, 2, TrimChecker.NONE);
-    new Run("at once", 1, 1, 1).add(0, "axiom 0", "lemma 0").state(TrimChecker.BUILDING, 1, TrimChecker.NONE)
-        .due("seal", 0).state(TrimChecker.ACCEPTED, 0, 0);
-  }
-
-  private static void followsARejectedText() {
     Texts.rejected("rejected").state(TrimChecker.REJECTED, 2, 2)
-        .due("seal", TrimChecker.WRONG_PHASE).state(TrimChecker.REJECTED, 2, 2)
-        .due("rewind 9", 3).state(TrimChecker.BUILDING, 3, TrimChecker.NONE);
+        .due("back", TrimChecker.WRONG_PHASE).state(TrimChecker.REJECTED, 2, 2)
+        .due("seal", TrimChecker.WRONG_PHASE).state(TrimChecker.REJECTED, 2, 2);
   }
 
-  private static void asksWithoutChanging() {
-    Run[] runs = {
-      Texts.withRat("building"), Texts.withRat("checking").due("seal", 3), Texts.accepted("accepted"),
-      Texts.rejected("rejected")
-    };
-    int[] phases = {TrimChecker.BUILDING, TrimChecker.CHECKING, TrimChecker.ACCEPTED, TrimChecker.REJECTED};
-    int[] cursors = {3, 3, 0, 2};
-    int[] conflicts = {TrimChecker.NONE, 3, 5, 2};
-    for (int i = 0; i < runs.length; i++) {
-      runs[i].same("phase", phases[i]).same("cursor", cursors[i]).same("conflict", conflicts[i]);
-    }
+  /** "In BUILDING no clause is marked, the cursor always equals the number of lines, and the conflict point is NONE." */
+  private static void buildsWithoutMarks() {
+    Texts.accepted("in a second life").due("rewind 3", 3).marks().state(TrimChecker.BUILDING, 3, TrimChecker.NONE)
+        .due("lemma 0 8", 7).marks().state(TrimChecker.BUILDING, 4, TrimChecker.NONE)
+        .due("delete 2", 8).marks().state(TrimChecker.BUILDING, 5, TrimChecker.NONE)
+        .due("delete 2", TrimChecker.BAD).marks().state(TrimChecker.BUILDING, 5, TrimChecker.NONE)
+        .due("seal", TrimChecker.NO_CONFLICT).marks().state(TrimChecker.BUILDING, 5, TrimChecker.NONE)
+        .due("rewind 0", 0).marks().state(TrimChecker.BUILDING, 0, TrimChecker.NONE)
+        .due("axiom 8", 4).marks().state(TrimChecker.BUILDING, 0, TrimChecker.NONE);
   }
 }

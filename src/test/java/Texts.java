@@ -23,9 +23,14 @@ final class Texts {
     return square(name).add(4, "lemma 2 1", "lemma 5", "delete 5", "delete 0", "lemma 1", "lemma 0");
   }
 
+  /** The text with waste, sealed. */
+  static Run checking(String name) {
+    return withWaste(name).due("seal", 5);
+  }
+
   /** The text with waste, sealed and gone back over to the start: accepted, all marks made. */
   static Run accepted(String name) {
-    return withWaste(name).due("seal", 5)
+    return checking(name)
         .due("back", TrimChecker.BY_RUP).due("back", TrimChecker.REVIVED).due("back", TrimChecker.REVIVED)
         .due("back", TrimChecker.SKIPPED).due("back", TrimChecker.BY_RUP);
   }
@@ -34,5 +39,53 @@ final class Texts {
   static Run rejected(String name) {
     return new Run(name, 2, 3, 4).add(0, "axiom 1 2", "lemma 2 -1", "lemma 0", "lemma 1")
         .due("seal", 2).due("back", TrimChecker.NOT_PASSED);
+  }
+
+  /**
+   * As many axioms and lines as there can be. After the square come eight axioms that are not needed (4 to 11),
+   * then their deletions (12 to 19) and four needed lemmas (20 to 23): the conflict comes after 12 lines.
+   */
+  static Run greatest(String name) {
+    Run run = square(name);
+    for (int id = 4; id < 12; id++) {
+      run.due("axiom 6 7", id);
+    }
+    for (int id = 4; id < 12; id++) {
+      run.due("delete " + id, id + 8);
+    }
+    return run.add(20, "lemma 3", "lemma 4 -3", "lemma 5 -4", "lemma -5 1");
+  }
+
+  /** The greatest text, sealed and gone back over to the start. */
+  static Run greatestAccepted(String name) {
+    Run run = greatest(name).due("seal", 12).due("back", TrimChecker.BY_RUP)
+        .due("back", TrimChecker.BY_RAT).due("back", TrimChecker.BY_RAT).due("back", TrimChecker.BY_RAT);
+    for (int line = 7; line >= 0; line--) {
+      run.due("back", TrimChecker.REVIVED);
+    }
+    return run;
+  }
+
+  /** One object in each phase, in the order of the phases' numbers. */
+  static Run[] inEveryPhase() {
+    return new Run[] {withWaste("building"), checking("checking"), accepted("accepted"), rejected("rejected")};
+  }
+
+  /** Objects that are no longer in BUILDING, one of them without a line. */
+  static Run[] sealed() {
+    return new Run[] {
+      checking("checking"), checking("going back").due("back", TrimChecker.BY_RUP), accepted("accepted"),
+      rejected("rejected"), new Run("accepted without a line", 2, 3, 3).add(0, "axiom 0").due("seal", 0)
+    };
+  }
+
+  /** Objects with one variable that are no longer in BUILDING and have no room left: all refusals are due at once. */
+  static Run[] sealedAndFull() {
+    return new Run[] {
+      new Run("checking and full", 1, 1, 1).add(0, "axiom -1", "lemma 1").due("seal", 1),
+      new Run("rejected and full", 1, 1, 1).add(0, "axiom -1", "lemma 1").due("seal", 1)
+          .due("back", TrimChecker.NOT_PASSED),
+      new Run("accepted and full", 1, 1, 1).add(0, "axiom 0", "lemma 1").due("seal", 0)
+    };
   }
 }
