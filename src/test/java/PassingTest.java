@@ -88,9 +88,11 @@ public final class PassingTest {
 
   /** "the sets C united with (D without -p)" */
   private static void unitesLemmaAndPartner() {
-    new Run("the pivot stays", 3, 3, 2).add(0, "axiom -1 2", "axiom 1 2 3", "axiom 1 2 -3", "lemma 1")
-        .due("forward 0", TrimChecker.NO_CONFLICT);
-    new Run("without the pivot", 3, 3, 2).add(0, "axiom -1 2", "axiom 2 3", "lemma 1")
+    // With the pivot in it the obligation {3, 5} needs no partner to be refuted, so clause 4 goes.
+    Texts.square("the pivot").add(4, "axiom -3 5", "axiom 3 5 6", "axiom 3 5 -6", "lemma 3", "lemma -3 1").due("seal", 2)
+        .due("back", TrimChecker.BY_RUP).marks(0, 1, 2, 3, 7, 8)
+        .due("back", TrimChecker.BY_RAT).marks(0, 1, 2, 3, 5, 6, 7, 8);
+    new Run("neither refutes it", 3, 3, 2).add(0, "axiom -1 2", "axiom 2 3", "lemma 1")
         .due("forward 0", TrimChecker.FAILS_AT);
     new Run("the lemma's other literals", 3, 3, 2).add(0, "axiom -1 2", "axiom 2 3", "lemma 1 3")
         .due("forward 0", TrimChecker.NO_CONFLICT);

@@ -84,7 +84,7 @@ public final class RefutedTest {
         .add(0, "axiom 1", "axiom -1 2", "axiom -2 3", "axiom -3 4", "axiom -4 5", "axiom -5 6",
             "axiom -6 7", "axiom -7 8", "axiom -1 -2 -7 -8")
         .due("seal", 0).marks(0, 1, 2, 3, 4, 5, 6, 7, 8);
-    new Run("all eight variables, then the conflict", 8, 12, 1)
+    new Run("from both ends", 8, 12, 1)
         .add(0, "axiom -8 -1", "axiom -7 8", "axiom -6 7", "axiom -5 6", "axiom -4 5", "axiom -3 4",
             "axiom -2 3", "axiom -1 2", "axiom 1")
         .due("seal", 0).marks(0, 1, 2, 3, 4, 5, 6, 7, 8);
