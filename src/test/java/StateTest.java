@@ -9,28 +9,28 @@ public final class StateTest {
     Run.end();
   }
 
-  /** "phase() answers the phase: BUILDING, CHECKING, ACCEPTED or REJECTED. Nothing changes." */
-  private static void tellsEachPhase() {
-    int[] wanted = {TrimChecker.BUILDING, TrimChecker.CHECKING, TrimChecker.ACCEPTED, TrimChecker.REJECTED};
+  /** The answer in each phase, in the order of the phases' numbers; asking twice makes no difference. */
+  private static void inEachPhase(String call, int... wanted) {
     Run[] runs = Texts.inEveryPhase();
     for (int i = 0; i < runs.length; i++) {
-      runs[i].same("phase", wanted[i]).same("phase", wanted[i]);
-      runs[i].due("rewind 99", i == 3 ? 3 : 6).same("phase", TrimChecker.BUILDING);
+      runs[i].same(call, wanted[i]).same(call, wanted[i]);
     }
+  }
+
+  /** "phase() answers the phase: BUILDING, CHECKING, ACCEPTED or REJECTED. Nothing changes." */
+  private static void tellsEachPhase() {
+    inEachPhase("phase", TrimChecker.BUILDING, TrimChecker.CHECKING, TrimChecker.ACCEPTED, TrimChecker.REJECTED);
     new Run("new", 1, 1, 1).same("phase", TrimChecker.BUILDING);
     Texts.square("after NO_CONFLICT").due("seal", TrimChecker.NO_CONFLICT).same("phase", TrimChecker.BUILDING);
     new Run("accepted at once", 1, 1, 1).due("axiom 0", 0).due("seal", 0).same("phase", TrimChecker.ACCEPTED);
+    Texts.rejected("rewound").due("rewind 99", 3).same("phase", TrimChecker.BUILDING);
   }
 
   /** "cursor() answers the cursor, in any phase. In BUILDING this is the number of lines. Nothing changes." */
   private static void tellsTheCursorInEachPhase() {
-    int[] wanted = {6, 5, 0, 2};
-    Run[] runs = Texts.inEveryPhase();
-    for (int i = 0; i < runs.length; i++) {
-      runs[i].same("cursor", wanted[i]).same("cursor", wanted[i]);
-      runs[i].due("rewind 99", i == 3 ? 3 : 6).same("cursor", i == 3 ? 3 : 6);
-    }
+    inEachPhase("cursor", 6, 5, 0, 2);
     new Run("no line", 1, 1, 1).same("cursor", 0).due("axiom 1", 0).same("cursor", 0);
+    Texts.rejected("rewound").due("rewind 99", 3).same("cursor", 3);
     Texts.greatest("twelve lines").same("cursor", 12).due("seal", 12).same("cursor", 12);
     new Run("accepted at once, a line behind", 1, 1, 1).add(0, "axiom 0", "lemma 1").same("cursor", 1)
         .due("seal", 0).same("cursor", 0);
@@ -38,14 +38,10 @@ public final class StateTest {
 
   /** "conflict() answers the conflict point found by seal(), or NONE in BUILDING. ... Nothing changes." */
   private static void tellsTheConflictPointInEachPhase() {
-    int[] wanted = {TrimChecker.NONE, 5, 5, 2};
-    Run[] runs = Texts.inEveryPhase();
-    for (int i = 0; i < runs.length; i++) {
-      runs[i].same("conflict", wanted[i]).same("conflict", wanted[i]);
-      runs[i].due("rewind 99", i == 3 ? 3 : 6).same("conflict", TrimChecker.NONE);
-    }
+    inEachPhase("conflict", TrimChecker.NONE, 5, 5, 2);
     new Run("new", 1, 1, 1).same("conflict", TrimChecker.NONE);
     Texts.square("after NO_CONFLICT").due("seal", TrimChecker.NO_CONFLICT).same("conflict", TrimChecker.NONE);
+    Texts.rejected("rewound").due("rewind 99", 3).same("conflict", TrimChecker.NONE);
     new Run("point 0", 1, 1, 1).due("axiom 0", 0).due("seal", 0).same("conflict", 0);
     Texts.greatest("point 12").due("seal", 12).same("conflict", 12);
   }
