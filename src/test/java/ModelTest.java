@@ -133,6 +133,11 @@ public final class ModelTest {
           || checker.forward(TrimChecker.CORE) != checker.conflict()) {
         return disagree("a trimmed view does not lead to the conflict point");
       }
+      for (int assignment = 0; assignment < 1 << variables; assignment++) {
+        if (checker.holds(TrimChecker.CORE, assignment)) {
+          return disagree("the core is satisfied by " + assignment);
+        }
+      }
     }
     return true;
   }

@@ -10,8 +10,12 @@ final class Run {
     this.checker = new TrimChecker(variables, axioms, lines);
   }
 
+  int answer(String call) {
+    return Calls.answer(checker, call);
+  }
+
   Run due(String call, int want) {
-    int got = Calls.answer(checker, call);
+    int got = answer(call);
     if (got != want) {
       tellWrong(name + ": " + call + " answered " + got + ", due is " + want);
     }

@@ -23,6 +23,16 @@ final class Texts {
     return square(name).add(4, "lemma 2 1", "lemma 5", "delete 5", "delete 0", "lemma 1", "lemma 0");
   }
 
+  /**
+   * Seven axioms, then: 7 a lemma that 9 needs, 8 the deletion of an axiom that 7 needs, 9 a lemma, 10 the deletion
+   * of 7, 11 the lemma that gives the conflict after 5 lines.
+   */
+  static Run withUsedAndDeleted(String name) {
+    return new Run(name, 8, 12, 12)
+        .add(0, "axiom 1 2 3", "axiom 1 -2 3", "axiom 1 -3", "axiom -1 2", "axiom -1 -2", "axiom -4 5", "axiom -4 -5")
+        .add(7, "lemma 1 3", "delete 0", "lemma 1 4", "delete 7", "lemma -4");
+  }
+
   /** The text with waste, sealed. */
   static Run checking(String name) {
     return withWaste(name).due("seal", 5);

@@ -64,9 +64,7 @@ public final class TrimmedTest {
 
   /** "or a marked lemma": a deletion that has one as its target */
   private static void listsDeletionsOfMarkedLemmas() {
-    Run run = new Run("deletion of a marked lemma", 8, 12, 12)
-        .add(0, "axiom 1 2 3", "axiom 1 -2 3", "axiom 1 -3", "axiom -1 2", "axiom -1 -2", "axiom -4 5", "axiom -4 -5")
-        .add(7, "lemma 1 3", "delete 0", "lemma 1 4", "delete 7", "lemma -4", "delete 11");
+    Run run = Texts.withUsedAndDeleted("deletion of a marked lemma").due("delete 11", 12);
     run.due("seal", 5).marks(3, 4, 9, 11)
         .due("back", TrimChecker.BY_RUP).due("back", TrimChecker.REVIVED).due("back", TrimChecker.BY_RUP)
         .due("back", TrimChecker.REVIVED).due("back", TrimChecker.BY_RUP)
